@@ -1,3 +1,4 @@
+import java.util.ArrayList;
 import java.util.List;
 
 /** What the tests share: a way to write bodies as text, to read answers as text, and to count wrong ones. */
@@ -21,19 +22,24 @@ final class Check {
         System.exit(wrong == 0 ? 0 : 1);
     }
 
-    /** Appends tokens: a number is an INT, v3 is VAR 3, c2 is CALL 2, the others go by their names. */
-    static void draft(MonoShop x, String body) {
+    /** A number is an INT, v3 is VAR 3, c2 is CALL 2, the others go by their names. */
+    static List<int[]> tokens(String body) {
+        List<int[]> tokens = new ArrayList<>();
         for (String word : body.isBlank() ? new String[0] : body.trim().split("\\s+")) {
-            int kind = KINDS.indexOf(word);
-            int value = 0;
             if (word.matches("-?\\d+")) {
-                kind = 0;
-                value = Integer.parseInt(word);
+                tokens.add(new int[] {0, Integer.parseInt(word)});
             } else if (word.matches("[vc]\\d")) {
-                kind = word.charAt(0) == 'v' ? 3 : 4;
-                value = word.charAt(1) - '0';
+                tokens.add(new int[] {word.charAt(0) == 'v' ? 3 : 4, word.charAt(1) - '0'});
+            } else {
+                tokens.add(new int[] {KINDS.indexOf(word), 0});
             }
-            due("token " + word + " of " + body, x.token(kind, value), true);
+        }
+        return tokens;
+    }
+
+    static void draft(MonoShop x, String body) {
+        for (int[] token : tokens(body)) {
+            due("token " + token[0] + " " + token[1] + " of " + body, x.token(token[0], token[1]), true);
         }
     }
 
