@@ -34,6 +34,11 @@ public final class MakeTest {
             Check.due("instances stay", x.instances(), 2);
         }
         Check.due("run after BAD", x.run(), MonoShop.OK);
+        Check.defined(x, 0, 0, "5");
+        Check.due("make 0", x.make(0), MonoShop.OK);
+        Check.due("make 5 with something made", x.make(5), MonoShop.BAD);
+        Check.due("type of 5 with something made", x.type(5, 0), -1);
+        Check.due("make 9 with something made", x.make(9), MonoShop.BAD);
     }
 
     private static void orderOfInstances() {
@@ -61,6 +66,9 @@ public final class MakeTest {
         makes(x, "pair cons 1 c1 cons true c1", "4: 2 3 0 3 1, 1: 3 0, 1: 3 1");
         Check.defined(x, 2, 2, "v0");
         makes(x, "pair c2 1 true c2 true 1", "4: 2 0 1, 2: 0 1 0, 2: 1 0 1");
+        Check.defined(x, 3, 1, "7");
+        makes(x, "pair c3 1 c3 true", "4: 2 0 0, 3: 0 0, 3: 1 0");
+        makes(x, "pair c3 nil c3 c3 cons true nil", "4: 2 0 0, 3: 3 0 0, 3: 0 0, 3: 3 1 0");
     }
 
     private static void leftOverIsInt() {
