@@ -27,6 +27,9 @@ public final class FaceTest {
             .filter(f -> !Modifier.isPrivate(f.getModifiers())).map(Object::toString).sorted()
             .map(s -> s.replace("public static final int MonoShop.", "")).collect(Collectors.joining(" "));
         Check.due("the constants", constants, "BAD DEPTH FULL LARGE LONG OK SHAPE TYPE UNBOUND");
+        int[] values = {MonoShop.OK, MonoShop.SHAPE, MonoShop.UNBOUND, MonoShop.TYPE, MonoShop.LARGE, MonoShop.LONG,
+            MonoShop.DEPTH, MonoShop.FULL, MonoShop.BAD};
+        Check.due("their values", Arrays.toString(values), "[0, 1, 2, 3, 4, 5, 6, 7, -1]");
         Check.end();
     }
 }

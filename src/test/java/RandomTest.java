@@ -2,8 +2,12 @@ import java.util.ArrayList;
 import java.util.List;
 import java.util.Random;
 
-/** All promises: random runs of calls, answered by MonoShop as by Reference. The seeds are fixed. */
+/** All promises: random runs of calls, answered by MonoShop as by Reference, for at most 512 calls. The seeds are fixed. */
 public final class RandomTest {
+    /** Some more than a draft takes. */
+    private static final int TOKENS = 30;
+    /** A round takes the tokens and a few calls more; what is left then is used to look at what they did. */
+    private static final int ROUND = TOKENS + 10;
     private static final int[] answers = new int[9];
     private static final int[] makeAnswers = new int[9];
     private static final int[] runAnswers = new int[9];
@@ -24,21 +28,26 @@ public final class RandomTest {
 
     private static void useOne(int seed) {
         Random random = new Random(seed);
-        MonoShop x = new MonoShop();
+        Shop x = new Shop();
         Reference y = new Reference();
         Bodies bodies = new Bodies(random, y);
-        for (int round = 0; round < 14; round++) {
+        for (int round = 0; x.left() > ROUND; round++) {
             String where = "seed " + seed + " round " + round + ": ";
             int f = random.nextInt(20) == 0 ? random.nextInt(9) - 2 : random.nextInt(5);
             int parameters = random.nextInt(20) == 0 ? random.nextInt(7) - 2 : f == 4 ? 0 : random.nextInt(3);
             List<int[]> tokens = bodies.body(Math.floorMod(f, 5), Math.floorMod(parameters, 3));
             define(where, x, y, f, parameters, tokens);
             int made = random.nextInt(4) == 0 ? random.nextInt(7) - 1 : 4;
-            makeAnswers[compare(where + "make " + made, x.make(made), y.make(made)) + 1]++;
-            compareInstances(where, x, y);
-            runAnswers[compare(where + "run", x.run(), y.run()) + 1]++;
-            compareValues(where, x, y);
+            makeAndRun(where, x, y, made, random);
         }
+        compareRest("seed " + seed + " at the end: ", x, y);
+    }
+
+    private static void makeAndRun(String where, Shop x, Reference y, int made, Random random) {
+        makeAnswers[compare(where + "make " + made, x.make(made), y.make(made)) + 1]++;
+        runAnswers[compare(where + "run", x.run(), y.run()) + 1]++;
+        compareInstances(where, x, y);
+        compareValues(where, x, y, random);
     }
 
     /** Functions that make types, lists and work grow, called from each other and from a function without parameters. */
@@ -54,7 +63,7 @@ public final class RandomTest {
 
     private static void useWorkers(int seed) {
         Random random = new Random(seed);
-        MonoShop x = new MonoShop();
+        Shop x = new Shop();
         Reference y = new Reference();
         for (int f = 0; f < 4; f++) {
             String worker = WORKERS[random.nextInt(WORKERS.length)];
@@ -62,25 +71,23 @@ public final class RandomTest {
             String body = worker.substring(2).replace("cN", "c" + f).replace("cM", called);
             define("seed " + seed + " worker " + body + ": ", x, y, f, worker.charAt(0) - '0', Check.tokens(body));
         }
-        for (int round = 0; round < 12; round++) {
+        for (int round = 0; x.left() > ROUND; round++) {
             List<int[]> tokens = new ArrayList<>();
             work(random, y, tokens, 0);
             String where = "seed " + seed + " workers, round " + round + ": ";
             define(where, x, y, 4, 0, tokens);
-            makeAnswers[compare(where + "make", x.make(4), y.make(4)) + 1]++;
-            compareInstances(where, x, y);
-            runAnswers[compare(where + "run", x.run(), y.run()) + 1]++;
-            compareValues(where, x, y);
+            makeAndRun(where, x, y, 4, random);
         }
+        compareRest("seed " + seed + " workers, at the end: ", x, y);
     }
 
-    private static void define(String where, MonoShop x, Reference y, int f, int parameters, List<int[]> tokens) {
-        for (int[] t : tokens) {
+    private static void define(String where, Shop x, Reference y, int f, int parameters, List<int[]> tokens) {
+        for (int[] t : tokens.subList(0, Math.min(TOKENS, tokens.size()))) {
             Check.due(where + "token " + t[0] + " " + t[1], x.token(t[0], t[1]), y.token(t[0], t[1]));
         }
         answers[compare(where + "define " + f, x.define(f, parameters), y.define(f, parameters)) + 1]++;
         Check.due(where + "place", x.place(), y.place);
-        compareTypes(where, x, y);
+        compareTypes(where, x, y, f);
     }
 
     private static void work(Random random, Reference y, List<int[]> tokens, int deep) {
@@ -105,13 +112,13 @@ public final class RandomTest {
     /** Calls without any sense, as many as an object is used for. */
     private static void useAnyhow(int seed) {
         Random random = new Random(seed);
-        MonoShop x = new MonoShop();
+        Shop x = new Shop();
         Reference y = new Reference();
-        for (int call = 0; call < 512; call++) {
+        for (int call = 0; x.left() > 0; call++) {
             String where = "seed " + seed + " call " + call + ": ";
             int a = anyhow(random, 17);
             int b = anyhow(random, 5);
-            switch (random.nextInt(12)) {
+            switch (random.nextInt(13)) {
                 case 0, 1 -> Check.due(where + "define", x.define(b, a % 5), y.define(b, a % 5));
                 case 2 -> Check.due(where + "place", x.place(), y.place);
                 case 3 -> Check.due(where + "type", x.type(b, a), y.type(b, a));
@@ -119,7 +126,8 @@ public final class RandomTest {
                 case 5 -> Check.due(where + "instances", x.instances(), y.made.size());
                 case 6 -> Check.due(where + "instance", x.instance(b, a), y.instance(b, a));
                 case 7 -> Check.due(where + "run", x.run(), y.run());
-                case 8 -> Check.due(where + "steps and value", x.steps() + x.value(a), y.steps + y.value(a));
+                case 8 -> Check.due(where + "steps", x.steps(), y.steps);
+                case 9 -> Check.due(where + "value", x.value(a), y.value(a));
                 default -> Check.due(where + "token", x.token(a, b), y.token(a, b));
             }
         }
@@ -130,32 +138,45 @@ public final class RandomTest {
         return choice == 0 ? random.nextInt() : choice == 1 ? below : choice == 2 ? -1 : random.nextInt(below);
     }
 
-    private static void compareValues(String where, MonoShop x, Reference y) {
-        Check.due(where + "steps", x.steps(), y.steps);
-        for (int k = -1; k < 402; k++) {
-            Check.due(where + "value " + k, x.value(k), y.value(k));
-        }
-    }
-
     private static int compare(String what, int got, int want) {
         Check.due(what, got, want);
         return want;
     }
 
-    private static void compareTypes(String where, MonoShop x, Reference y) {
-        for (int f = -1; f < 6; f++) {
-            for (int k = -1; k < 45; k++) {
-                Check.due(where + "type " + f + " " + k, x.type(f, k), y.type(f, k));
+    private static void compareTypes(String where, Shop x, Reference y, int f) {
+        for (int g = -1; g < 6 && x.left() > ROUND; g++) {
+            Check.due(where + "type " + g + " 0", x.type(g, 0), y.type(g, 0));
+        }
+        for (int k = 1; x.left() > ROUND && (k == 1 || y.type(f, k - 1) != -1); k++) {
+            Check.due(where + "type " + f + " " + k, x.type(f, k), y.type(f, k));
+        }
+    }
+
+    private static void compareInstances(String where, Shop x, Reference y) {
+        if (x.left() > 0) {
+            Check.due(where + "instances", x.instances(), y.made.size());
+        }
+        for (int i = 0; i <= y.made.size(); i++) {
+            for (int k = 0; x.left() > ROUND && (k == 0 || y.instance(i, k - 1) != -1); k++) {
+                Check.due(where + "instance " + i + " " + k, x.instance(i, k), y.instance(i, k));
             }
         }
     }
 
-    private static void compareInstances(String where, MonoShop x, Reference y) {
-        Check.due(where + "instances", x.instances(), y.made.size());
-        for (int i = -1; i < 14; i++) {
-            for (int k = -1; k < 45; k++) {
-                Check.due(where + "instance " + i + " " + k, x.instance(i, k), y.instance(i, k));
-            }
+    private static void compareValues(String where, Shop x, Reference y, Random random) {
+        if (x.left() > 0) {
+            Check.due(where + "steps", x.steps(), y.steps);
+        }
+        for (int i = 0; i < 12 && x.left() > 0; i++) {
+            int k = i < 8 ? i : random.nextInt(403) - 1;
+            Check.due(where + "value " + k, x.value(k), y.value(k));
+        }
+    }
+
+    /** What can be asked without a change, for as many calls as are left. */
+    private static void compareRest(String where, Shop x, Reference y) {
+        for (int k = 0; x.left() > 0; k++) {
+            Check.due(where + "value " + k, x.value(k), y.value(k));
         }
     }
 }
