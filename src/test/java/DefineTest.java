@@ -1,3 +1,5 @@
+import java.util.Arrays;
+
 /** Promise 3. The sentences stand above the tests. */
 public final class DefineTest {
     private static final String FOURTEEN = "cons " + Check.pairs(7, "1") + " nil";
@@ -106,25 +108,34 @@ public final class DefineTest {
         return x;
     }
 
+    /** Defines function f anew in a chain; those in front of it keep their bodies, those behind it don't. */
+    private static void definedAnew(int[] chain, int f, String body, int answer) {
+        Shop x = chain(chain);
+        Check.due("bodies", withBodies(x), "01234");
+        Check.due("define " + f + " as " + body, Check.define(x, f, 1, body), answer);
+        boolean[] keeps = new boolean[5];
+        for (int i = 0; chain[i] != f; i++) {
+            keeps[chain[i]] = true;
+        }
+        keeps[f] = answer == MonoShop.OK;
+        String left = "";
+        for (int g = 0; g < 5; g++) {
+            left += keeps[g] ? g : "";
+        }
+        Check.due("bodies of chain " + Arrays.toString(chain) + " with a new " + f + ", " + body, withBodies(x), left);
+    }
+
     /** First f, and all functions that have a CALL of one without a body, again and again, lose their bodies. */
     private static void callersLoseTheirBodies() {
-        String[] bodies = {"v0", "add", "v1", "add true 1", FIFTEEN};
-        int[] answers = {MonoShop.OK, MonoShop.SHAPE, MonoShop.UNBOUND, MonoShop.TYPE, MonoShop.LARGE};
-        for (int i = 0; i < bodies.length; i++) {
-            String left = i == 0 ? "0" : "";
-            int[][] chains = {{0, 1, 2, 3, 4}, {0, 4, 3, 2, 1}, {0, 3, 1, 4, 2}, {0, 2, 4, 1, 3}};
-            for (int[] chain : chains) {
-                Shop x = chain(chain);
-                Check.due("bodies", withBodies(x), "01234");
-                Check.due("define 0 as " + bodies[i], Check.define(x, 0, 1, bodies[i]), answers[i]);
-                Check.due("bodies with the end of a chain defined anew", withBodies(x), left);
+        int[][] chains = {{0, 1, 2, 3, 4}, {4, 3, 2, 1, 0}, {0, 3, 1, 4, 2}, {2, 4, 1, 3, 0}, {3, 0, 4, 2, 1}};
+        for (int[] chain : chains) {
+            for (int f = 0; f < 5; f++) {
+                definedAnew(chain, f, "v0", MonoShop.OK);
+                definedAnew(chain, f, "add", MonoShop.SHAPE);
+                definedAnew(chain, f, "v1", MonoShop.UNBOUND);
+                definedAnew(chain, f, "add true 1", MonoShop.TYPE);
+                definedAnew(chain, f, FIFTEEN, MonoShop.LARGE);
             }
-            Shop x = chain(1, 2, 0, 3, 4);
-            Check.due("define 0 as " + bodies[i], Check.define(x, 0, 1, bodies[i]), answers[i]);
-            Check.due("bodies with the middle of a chain defined anew", withBodies(x), left + "12");
-            Shop y = chain(4, 3, 2, 1, 0);
-            Check.due("define 0 as " + bodies[i], Check.define(y, 0, 1, bodies[i]), answers[i]);
-            Check.due("bodies with the head of a chain defined anew", withBodies(y), left + "1234");
         }
     }
 
@@ -266,10 +277,12 @@ public final class DefineTest {
             Shop x = new Shop();
             Check.defined(x, 0, 0, "1");
             Check.refused(x, 0, 0, (String) one[0], MonoShop.TYPE, (Integer) one[1]);
+            Check.refused(x, 0, 0, "pair 7 " + one[0], MonoShop.TYPE, 2 + (Integer) one[1]);
         }
         for (Object[] one : right) {
             Shop x = new Shop();
             Check.typed(x, 0, 0, (String) one[0], (String) one[1]);
+            Check.typed(x, 0, 0, "pair 7 " + one[0], "2 0 " + one[1]);
         }
     }
 

@@ -4,6 +4,8 @@ public final class MakeTest {
         orderOfInstances();
         bodyTypesTellApart();
         leftOverIsInt();
+        parametersTellWhatIsCalled();
+        bodyTellsWhatIsCalled();
         recursion();
         badWithoutBody();
         badWithParameters();
@@ -52,6 +54,29 @@ public final class MakeTest {
         Check.makes(x, "case c0 nil 1 2", "4: 0, 0: 3 0 3 0");
         Check.defined(x, 1, 1, "let c0 nil let c0 lam v2 c0 v0");
         Check.makes(x, "c1 true", "4: 1, 1: 1 1, 0: 3 0 3 0, 0: 4 0 0 4 0 0, 0: 1 1");
+    }
+
+    private static void parametersTellWhatIsCalled() {
+        Shop x = new Shop();
+        Check.defined(x, 0, 1, "v0");
+        Check.defined(x, 1, 2, "let c0 v0 let c0 v1 1");
+        Check.makes(x, "c1 true nil", "4: 0, 1: 1 3 0 0, 0: 1 1, 0: 3 0 3 0");
+        Check.makes(x, "c1 nil true", "4: 0, 1: 3 0 1 0, 0: 3 0 3 0, 0: 1 1");
+        Check.defined(x, 1, 2, "let pair v1 1 1");
+        Check.made(x, "c1 1 cons " + Check.pairs(6, "1") + " nil");
+        Check.tooLarge(x, "c1 1 " + Check.pairs(7, "1"));
+        Check.made(x, "c1 " + Check.pairs(7, "1") + " 1");
+    }
+
+    private static void bodyTellsWhatIsCalled() {
+        Shop x = new Shop();
+        Check.defined(x, 0, 0, "nil");
+        Check.defined(x, 1, 0, "c0");
+        Check.defined(x, 2, 1, "c1");
+        Check.makes(x, "cons true c1", "4: 3 1, 1: 3 1, 0: 3 1");
+        Check.makes(x, "cons true c2 5", "4: 3 1, 2: 0 3 1, 1: 3 1, 0: 3 1");
+        Check.defined(x, 3, 0, "case c1 c0 v1");
+        Check.makes(x, "cons nil c3", "4: 3 3 0, 3: 3 3 0, 1: 3 3 0, 0: 3 3 0");
     }
 
     private static void recursion() {

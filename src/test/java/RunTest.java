@@ -24,6 +24,7 @@ public final class RunTest {
         fullOfNeither();
         fullAfterOperands();
         pairsAreNotCounted();
+        deepest();
         countsBeginAnew();
         firstOfSeveralFaults();
         Check.end();
@@ -217,6 +218,23 @@ public final class RunTest {
         Shop x = new Shop();
         Check.defined(x, 0, 1, "if less v0 1 0 let " + Check.pairs(7, "1") + " c0 add v0 -1");
         Check.ran(x, "add c0 19 add c0 19 add c0 19 add c0 19 c0 19", OK, 100, "0");
+        Check.defined(x, 1, 1, "if less v0 1 0 let " + Check.pairs(7, "1") + " c1 add v0 -1");
+        Check.defined(x, 0, 2, SEVEN);
+        Check.made(x, "let c1 9 " + TWO_HUNDRED);
+        Check.due("run with 54 PAIRs and 200 CONSes", x.run(), OK);
+        Check.due("how many", x.value(0), 200);
+    }
+
+    /** As much at work at once as there can be: 21 bodies, with all of their tokens begun. */
+    private static void deepest() {
+        Shop x = new Shop();
+        Check.defined(x, 1, 1, "v0");
+        Check.defined(x, 0, 1, "c1 ".repeat(22) + "c0 v0");
+        Check.ran(x, "c1 ".repeat(22) + "c0 1", MonoShop.DEPTH, 21, "");
+        Check.defined(x, 0, 0, "add 1 ".repeat(11) + "c0");
+        Check.ran(x, "add 1 ".repeat(11) + "c0", MonoShop.DEPTH, 21, "");
+        Check.defined(x, 0, 1, "if less v0 1 0 " + "add 1 ".repeat(7) + "c0 add v0 -1");
+        Check.ran(x, "add 1 ".repeat(10) + "c0 19", OK, 20, "143");
     }
 
     /** Each run begins with no STEP, CONS or LAM. */
