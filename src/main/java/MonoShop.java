@@ -446,7 +446,7 @@ public final class MonoShop {
         equate(t, g == f ? 0 : typed);
     }
 
-    /** Answers the node of the row's first code; the others' follow it, and each node's size tells where the next type begins. */
+    /** Answers the node of the row's first code; the others' follow it. A node's size tells where the next type begins. */
     private int loadRow(int row) {
         int base = nodeCount;
         for (int k = typeLengths[row] - 1; k >= 0; k--) {

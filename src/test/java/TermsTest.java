@@ -46,7 +46,7 @@ public final class TermsTest {
         Check.typed(x, 0, 0, Check.pairs(7, "1"), "2 0 2 0 2 0 2 0 2 0 2 0 0");
     }
 
-    /** The edge is the same for PAIR, LIST and ARROW, at the first token and below it, where only a token or variable has it. */
+    /** The edge is the same for PAIR, LIST and ARROW, and for tokens and variables below the first token. */
     private static void largeTypesOfEachSort() {
         String thirteen = Check.pairs(7, "true");
         String twelve = "cons " + Check.pairs(6, "true") + " nil";
@@ -199,7 +199,7 @@ public final class TermsTest {
         Check.refused(x, 0, 1, "pair case v0 v0 v2 v1", MonoShop.UNBOUND, 5);
     }
 
-    /** Variables are numbered from 0 on: the parameters, then what binds them on the way to a place, from the outermost on. */
+    /** Numbered from 0 on: the parameters, then what binds them on the way to a place, from the outermost on. */
     private static void numbersOfVariables() {
         Shop x = new Shop();
         Check.defined(x, 0, 2, "let 12 case cons 13 nil c0 v0 v1 app lam pair pair v0 v1 pair v2 pair v3 pair v4 v5 15");
@@ -231,7 +231,7 @@ public final class TermsTest {
         Check.ran(x, ten + "pair v1 v8", OK, 0, "10 80");
     }
 
-    /** CALL of another function: the VARIABLES standing for any types, anew for each CALL; of itself: those of its parameters. */
+    /** CALL of another function: VARIABLES stand for any types, anew for each CALL; of itself: its parameters' types. */
     private static void anewForEachCall() {
         Shop x = new Shop();
         Check.defined(x, 0, 1, "v0");
